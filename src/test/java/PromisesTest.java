@@ -1,0 +1,1 @@
+public final class PromisesTest { public static void main(String[] a) { } }
