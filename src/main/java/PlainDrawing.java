@@ -885,6 +885,8 @@ public final class PlainDrawing {
         /** A plain sketch of 9 nodes has at most 14 faces. */
         private static final int MAX_RINGS = 14;
         private static final int MAX_PATHS = MAX_NODES * MAX_DEGREE / 2;
+        /** K3,3 has 9 edges, K5 has 10. */
+        private static final int SMALLEST_FORBIDDEN = 9;
 
         /** The edges that are still to be judged, and of these the ones in the sketch. */
         private final int[] rest;
@@ -918,12 +920,12 @@ public final class PlainDrawing {
             origin = new int[MAX_NODES];
         }
 
-        /** Each turn judges one block and takes it away, until only trees are left. */
+        /** Each turn judges one block and takes it away, until nothing forbidden can be left. */
         boolean accepts(int[] near) {
             System.arraycopy(near, 0, rest, 0, MAX_NODES);
             for (int block = 0; block < MAX_NODES; block++) {
                 reduce();
-                if (!findCycle()) {
+                if (countEdges() < SMALLEST_FORBIDDEN || !findCycle()) {
                     return true;
                 }
                 if (!sketchBlock()) {
@@ -950,6 +952,14 @@ public final class PlainDrawing {
                     return;
                 }
             }
+        }
+
+        private int countEdges() {
+            int ended = 0;
+            for (int node = 0; node < MAX_NODES; node++) {
+                ended += Integer.bitCount(rest[node]);
+            }
+            return ended / 2;
         }
 
         private void bridgeOver(int node) {
