@@ -60,7 +60,7 @@ public final class PlainDrawing {
         if (!areTwoNodes(a, b) || !mayStandBehind(a, behindA) || !mayStandBehind(b, behindB)) {
             return INVALID_ARGUMENT;
         }
-        if (graph.edgeBetween(a, b) >= 0) {
+        if (graph.areJoined(a, b)) {
             return ILLEGAL_STATE;
         }
         // slotOf answers -1 for the edge -1, so that the new edge becomes the first one
@@ -71,7 +71,7 @@ public final class PlainDrawing {
         if (!areTwoNodes(a, b) || !faces.exists(face)) {
             return INVALID_ARGUMENT;
         }
-        if (graph.edgeBetween(a, b) >= 0 || !faces.holds(face, a) || !faces.holds(face, b)) {
+        if (graph.areJoined(a, b) || !faces.holds(face, a) || !faces.holds(face, b)) {
             return ILLEGAL_STATE;
         }
         int slotA = graph.slotOf(a, faces.firstEdgeLeaving(graph, face, a));
@@ -228,7 +228,7 @@ public final class PlainDrawing {
         if (!areTwoNodes(a, b)) {
             return INVALID_ARGUMENT;
         }
-        if (graph.edgeBetween(a, b) >= 0) {
+        if (graph.areJoined(a, b)) {
             return ILLEGAL_STATE;
         }
         graph.fillLinks(links);
@@ -370,7 +370,7 @@ public final class PlainDrawing {
     }
 
     private boolean canInsert(int a, int b) {
-        return faces.genus == 0 && graph.edgeBetween(a, b) < 0;
+        return faces.genus == 0 && !graph.areJoined(a, b);
     }
 
     private static boolean isRounds(int rounds) {
@@ -538,14 +538,13 @@ public final class PlainDrawing {
             return hasEdge(edge) && (low[edge] == node || high[edge] == node);
         }
 
-        /** The edge between two nodes, or -1. */
-        int edgeBetween(int a, int b) {
+        boolean areJoined(int a, int b) {
             for (int edge = 0; edge < edges; edge++) {
                 if (low[edge] == Math.min(a, b) && high[edge] == Math.max(a, b)) {
-                    return edge;
+                    return true;
                 }
             }
-            return -1;
+            return false;
         }
 
         int edgeAt(int node, int slot) {
@@ -827,7 +826,6 @@ public final class PlainDrawing {
 
         /** Reads the text into a graph, and answers the error position, or -1. */
         int read(Graph target) {
-            target.makeEmpty(MIN_NODES);
             due = NODES;
             for (int k = 0; k < length; k++) {
                 if (characters[k] != ' ' && !take(characters[k], target)) {
@@ -867,7 +865,7 @@ public final class PlainDrawing {
         }
 
         private boolean takeSecondEnd(int digit, Graph target) {
-            if (!target.hasNode(digit) || digit == from || target.edgeBetween(from, digit) >= 0) {
+            if (!target.hasNode(digit) || digit == from || target.areJoined(from, digit)) {
                 return false;
             }
             target.connect(from, digit, target.degree[from], target.degree[digit]);
@@ -882,9 +880,8 @@ public final class PlainDrawing {
      * that has all ends of the path's fragment.
      */
     private static final class PlanarityTest {
-        /** A plain sketch of 9 nodes has at most 14 faces. */
-        private static final int MAX_RINGS = 14;
-        private static final int MAX_PATHS = MAX_NODES * MAX_DEGREE / 2;
+        /** A plain sketch of 9 nodes has at most 14 faces; a turn more finds nothing left. */
+        private static final int MAX_RINGS = 15;
         /** K3,3 has 9 edges, K5 has 10. */
         private static final int SMALLEST_FORBIDDEN = 9;
 
@@ -1008,7 +1005,7 @@ public final class PlainDrawing {
 
         private boolean sketchBlock() {
             startSketch();
-            for (int step = 0; step < MAX_PATHS; step++) {
+            for (int filled = rings; filled < MAX_RINGS; filled++) {
                 if (!chooseFragment()) {
                     return false;
                 }

@@ -266,6 +266,7 @@ public final class PromisesTest {
         due(9, "edge(-1, 0)", x.edge(-1, 0), INVALID);
         due(9, "edge(0, 2)", x.edge(0, 2), INVALID);
         due(9, "edge(0, -1)", x.edge(0, -1), INVALID);
+        due(9, "edge(20, 0)", of(TWENTY).edge(20, 0), INVALID);
     }
 
     private static void count() {
@@ -385,6 +386,8 @@ public final class PromisesTest {
         due(16, "faceOf(5)", x.faceOf(5), 0);
         due(16, "faceOf(6)", x.faceOf(6), INVALID);
         due(16, "faceOf(-1)", x.faceOf(-1), INVALID);
+        due(16, "faceOf(40)", of(TWENTY).faceOf(40), INVALID);
+        due(16, "faceOf(MAX)", x.faceOf(Integer.MAX_VALUE), INVALID);
         walkIs(16, of("6:01;23;34;42;"), 2, 3, 6, 5);
     }
 
@@ -415,6 +418,10 @@ public final class PromisesTest {
             of("9:01;02;12;03;13;23;04;14;34;05;15;45;06;16;56;07;17;67;08;18;").isPlanar(), 1);
         due(18, "K4 and K4 at one node", of("7:01;02;03;12;13;23;34;35;36;45;46;56;").isPlanar(), 1);
         due(18, "K4 and K5 at one node", of("8:01;02;03;12;13;23;34;35;36;37;45;46;47;56;57;67;").isPlanar(), 0);
+        due(18, "single edges that exclude one another",
+            of("8:45;41;76;71;64;16;06;07;72;73;62;52;43;63;20;35;").isPlanar(), 0);
+        due(18, "single edges that exclude one another",
+            of("9:71;34;35;28;65;52;06;15;81;08;87;32;74;07;64;38;").isPlanar(), 0);
         due(18, "the cube", of("8:01;13;32;20;45;57;76;64;04;15;26;37;").isPlanar(), 1);
         due(18, "the cube with a long diagonal", of("8:01;13;32;20;45;57;76;64;04;15;26;37;07;").isPlanar(), 0);
     }
