@@ -40,7 +40,6 @@ public final class PlainDrawing {
         way = new Way();
         layout = new Layout();
         links = new int[MAX_NODES];
-        faces.trace(graph);
     }
 
     // ---- nodes, edges and rotations
@@ -52,7 +51,7 @@ public final class PlainDrawing {
         int previous = graph.nodes;
         history.save(graph);
         graph.makeEmpty(nodes);
-        faces.trace(graph);
+        settle();
         return previous;
     }
 
@@ -508,7 +507,6 @@ public final class PlainDrawing {
         void makeEmpty(int newNodes) {
             nodes = newNodes;
             edges = 0;
-            outer = 0;
             Arrays.fill(degree, 0);
         }
 
@@ -661,7 +659,9 @@ public final class PlainDrawing {
         /** By nodes: the set of the neighbours. */
         final int[] near;
 
+        /** For a new graph, whose nodes have no edges. */
         Faces() {
+            components = FIRST_NODES;
             next = new int[MAX_DIRECTED];
             owner = new int[MAX_DIRECTED];
             first = new int[MAX_DIRECTED];
