@@ -58,6 +58,12 @@ final class Script {
         return this;
     }
 
+    /** Appends all characters, also the spaces at the ends, which go() takes off. */
+    Script write(String text) {
+        for (char sign : text.toCharArray()) ask("appendCharacter(" + (int) sign + ")");
+        return this;
+    }
+
     /** The answer of a call, which the reference must answer too. */
     int ask(String call) {
         lines.add(call);
@@ -75,7 +81,7 @@ final class Script {
 
     private void obey(String line) {
         if (line.startsWith("write ")) {
-            for (char sign : line.substring(6).toCharArray()) ask("appendCharacter(" + (int) sign + ")");
+            write(line.substring(6));
             return;
         }
         int equals = line.indexOf(" = ");
