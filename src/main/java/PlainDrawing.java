@@ -1003,10 +1003,12 @@ public final class PlainDrawing {
             pathLength = kept;
         }
 
+        /** Draws fragment by fragment until none is left; a fragment without a ring ends it. */
         private boolean sketchBlock() {
             startSketch();
             for (int filled = rings; filled < MAX_RINGS; filled++) {
-                if (!chooseFragment()) {
+                ends = 0;
+                if (!weighEdges() || !weighParts()) {
                     return false;
                 }
                 if (ends == 0) {
@@ -1042,12 +1044,7 @@ public final class PlainDrawing {
             }
         }
 
-        /** Answers whether each fragment has a ring; if none is left, it leaves the ends empty. */
-        private boolean chooseFragment() {
-            ends = 0;
-            return weighEdges() && weighParts();
-        }
-
+        /** Answers whether each edge between placed nodes has a ring. */
         private boolean weighEdges() {
             for (int a = 0; a < MAX_NODES; a++) {
                 int open = contains(placed, a) ? rest[a] & placed & ~sketch[a] : 0;
@@ -1060,7 +1057,7 @@ public final class PlainDrawing {
             return true;
         }
 
-        /** A part with fewer than two ends belongs to other blocks. */
+        /** The same for the parts outside; one with fewer than two ends belongs to other blocks. */
         private boolean weighParts() {
             int seen = placed;
             for (int node = 0; node < MAX_NODES; node++) {
