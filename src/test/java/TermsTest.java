@@ -368,6 +368,15 @@ public final class TermsTest {
             setNodes(9) = 8
             count(4) = 0
             """);
+        Script.run("the greatest genus: 20 edges of 7 nodes, and one face", """
+            write 7:13;06;56;24;16;23;03;35;02;04;12;05;15;46;26;01;25;34;36;14;
+            load() = 20
+            count(2) = 1
+            count(3) = 1
+            count(4) = 7
+            mirror() = 1
+            count(4) = 7
+            """);
         Script.run("nodes without edges do not matter for the genus", """
             write 9:01;02;03;12;13;23;
             load() = 6
