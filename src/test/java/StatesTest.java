@@ -226,6 +226,101 @@ public final class StatesTest {
             """);
     }
 
+    /** A node right on an edge: the turn there is 0, and 0 is neither above nor below 0. */
+    private static void touchingEdges() {
+        Script.run("an edge that ends on another one does not cross it; the node on it has the greatest number", """
+            write 6:01;12;23;34;40;15;25;35;45;
+            load() = 9
+            addEdge(0, 3, 0, 7) = 9
+            # 0 to 4 are fixed in this order; 5 comes onto the line from 0 to 3, with 1 and 2 on its one side, 4 on the other
+            position(4, 1, 1) = bits 16
+            position(5, 0, 1) = bits 2.5
+            position(5, 1, 1) = bits 7.5
+            crossings(1) = 0
+            # before the first round 5 is where 0 is
+            crossings(0) = 0
+            """);
+        Script.run("and the same, where it has the smallest number; node 0 is moved too", """
+            write 6:12;23;34;45;51;02;03;04;05;
+            load() = 9
+            addEdge(1, 4, 0, 7) = 9
+            position(0, 0, 0) = bits 0
+            position(0, 0, 1) = bits 2.5
+            position(0, 1, 1) = bits 7.5
+            crossings(1) = 0
+            crossings(0) = 0
+            """);
+        Script.run("a turn of 1 is above 0", """
+            write 5:21;31;03;20;42;40;41;
+            load() = 7
+            # 0 3 and 2 4 cross: the turns are 1 and -3 there
+            crossings(1) = 1
+            undo() = 0
+            write 5:31;04;23;24;21;30;14;
+            load() = 7
+            # 1 2 and 0 3 cross: the turns are -3 and 1 there
+            crossings(0) = 0
+            crossings(1) = 1
+            """);
+        // in each of these one turn is nearer to 0 than 0.3, above or below it, and it still crosses
+        for (String text : new String[] {"6:12;03;43;05;42;54;25;", "6:13;53;23;05;54;30;42;", "6:31;35;52;40;43;23;54;"}) {
+            Script.run("a turn that is hardly above or below 0", "write " + text, "load() = 7", "crossings(2) = 1");
+        }
+    }
+
+    private static void pairsOfEdges() {
+        Script.run("the first edge and another one", """
+            write 4:02;03;12;13;32;10;
+            load() = 6
+            setOuter(1) = 0
+            # 3, 0, 1, 2 are on the parabola in this order, so 0 2 and 1 3 cross: the edges 0 and 3
+            crossings(0) = 1
+            """);
+        Script.run("the last two edges", """
+            write 4:32;03;10;02;13;
+            load() = 5
+            # 2, 3, 0, 1 are on the parabola in this order, so 0 2 and 1 3 cross: the edges 3 and 4
+            crossings(0) = 1
+            """);
+        Script.run("an edge that is no longer there crosses nothing and has no length", """
+            write 4:13;03;32;01;
+            load() = 4
+            removeEdge(3) = 3
+            # the walk of the star leaves 1, 3, 0 and 2
+            position(2, 0, 0) = bits 3
+            crossings(0) = 0
+            # 1 + 3 + 8
+            extent(0) = bits 12
+            """);
+        Script.run("a sum just below a power of two", """
+            write 6:24;35;54;52;30;15;40;01;
+            load() = 8
+            extent(0) = bits 17
+            extent(1) = bits 15.999999
+            """);
+    }
+
+    /** Where there were more faces before, these are gone: nodes are not together on them any more. */
+    private static void facesOfThePast() {
+        Script.run("faces that are gone hold no nodes", TermsTest.TETRAHEDRON, """
+            setNodes(4) = 4
+            commonFace(0, 1) = NONE
+            depth(0) = NONE
+            face(0, 0) = INVALID
+            walk(0, 0) = INVALID
+            faceOf(0) = INVALID
+            addEdge(0, 1, -1, -1) = 0
+            commonFace(0, 1) = 0
+            commonFace(0, 2) = NONE
+            commonFace(1, 3) = NONE
+            depth(1) = 0
+            depth(2) = NONE
+            depth(3) = NONE
+            extent(0) = bits 1
+            extent(50) = bits 1
+            """);
+    }
+
     private static void loads(String text, int want) {
         Script script = Script.run("the text '" + text + "'", "mirror() = 0");
         script.write(text);
@@ -484,6 +579,9 @@ public final class StatesTest {
         fixedNodes();
         movedNodes();
         crossingEdges();
+        touchingEdges();
+        pairsOfEdges();
+        facesOfThePast();
         characters();
         texts();
         fullText();

@@ -459,6 +459,28 @@ public final class TermsTest {
             crossed(7, 5, 0) = ILLEGAL
             crossed(7, 5, 9) = ILLEGAL
             """);
+        Script.run("It begins in any face that the one node is on, and ends in any that the other one is on", """
+            setNodes(5) = 4
+            addEdge(0, 1, -1, -1) = 0
+            addEdge(1, 2, 0, -1) = 1
+            addEdge(0, 3, 0, -1) = 2
+            addEdge(2, 4, 1, -1) = 3
+            addInFace(2, 0, 0) = 4
+            addInFace(4, 0, 1) = 5
+            count(4) = 0
+            # 1 is on the faces 0 and 1; from the face 0 the edge 4 leads to the face of 3, from the face 1 it is 3 or 5
+            faceOf(0) = 0
+            faceOf(1) = 1
+            faceOf(4) = 2
+            faceOf(8) = 2
+            faceOf(6) = 2
+            faceOf(11) = 2
+            insertionCost(1, 3) = 1
+            crossed(1, 3, 0) = 3
+            crossed(1, 3, 1) = NONE
+            crossed(3, 1, 0) = 3
+            crossed(3, 1, 1) = NONE
+            """);
         Script.run("without edges each node is a component", """
             insertionCost(0, 3) = 0
             crossed(0, 3, 0) = NONE
