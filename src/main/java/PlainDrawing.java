@@ -571,6 +571,9 @@ public final class PlainDrawing {
         }
 
         private void openSlot(int node, int slot, int edge) {
+            if (slot < 0 || slot > degree[node] || degree[node] >= MAX_DEGREE) {
+                return;
+            }
             int start = node * MAX_DEGREE;
             for (int k = degree[node]; k > slot; k--) {
                 turns[start + k] = turns[start + k - 1];
@@ -606,8 +609,10 @@ public final class PlainDrawing {
         void exchange(int node, int first, int second) {
             int slotOfFirst = slotOf(node, first);
             int slotOfSecond = slotOf(node, second);
-            turns[node * MAX_DEGREE + slotOfFirst] = second;
-            turns[node * MAX_DEGREE + slotOfSecond] = first;
+            if (slotOfFirst >= 0 && slotOfSecond >= 0) {
+                turns[node * MAX_DEGREE + slotOfFirst] = second;
+                turns[node * MAX_DEGREE + slotOfSecond] = first;
+            }
         }
 
         void reverseAll() {
@@ -975,19 +980,19 @@ public final class PlainDrawing {
             int seen = 0;
             int came = 0;
             pathLength = 0;
-            for (int step = 0; step <= MAX_NODES && node >= 0; step++) {
-                if (contains(seen, node)) {
-                    cutPathBefore(node);
-                    return true;
-                }
-                path[pathLength] = node;
-                pathLength++;
+            for (int step = 0; step < MAX_NODES && node >= 0 && !contains(seen, node); step++) {
+                path[step] = node;
+                pathLength = step + 1;
                 seen |= bit(node);
                 int onward = smallestOf(rest[node] & ~came);
                 came = bit(node);
                 node = onward;
             }
-            return false;
+            if (node < 0) {
+                return false;
+            }
+            cutPathBefore(node);
+            return true;
         }
 
         private void cutPathBefore(int node) {
@@ -1011,7 +1016,7 @@ public final class PlainDrawing {
                 if (!weighEdges() || !weighParts()) {
                     return false;
                 }
-                if (ends == 0) {
+                if (Integer.bitCount(ends) < 2) {
                     return true;
                 }
                 findPath();
@@ -1112,7 +1117,7 @@ public final class PlainDrawing {
                     return;
                 }
                 for (int other = 0; other < MAX_NODES; other++) {
-                    if (contains(rest[node] & inside & ~seen, other)) {
+                    if (contains(rest[node] & inside & ~seen, other) && waiting < MAX_NODES) {
                         origin[other] = node;
                         queue[waiting] = other;
                         waiting++;
@@ -1124,15 +1129,14 @@ public final class PlainDrawing {
 
         private void tracePath(int goal, int lastInside, int start) {
             path[0] = goal;
-            pathLength = 1;
             int node = lastInside;
-            for (int step = 0; step < MAX_NODES && node != start; step++) {
-                path[pathLength] = node;
-                pathLength++;
+            int k = 1;
+            for (; k < MAX_NODES - 1 && node != start; k++) {
+                path[k] = node;
                 node = origin[node];
             }
-            path[pathLength] = start;
-            pathLength++;
+            path[k] = start;
+            pathLength = k + 1;
         }
 
         /** The path cuts the ring in two: one stays in its place, the other one is a new ring. */
@@ -1170,9 +1174,11 @@ public final class PlainDrawing {
         }
 
         private void extendRing(int target, int node) {
-            ringNodes[target * MAX_NODES + ringLength[target]] = node;
-            ringLength[target]++;
-            ringSet[target] |= bit(node);
+            if (ringLength[target] < MAX_NODES) {
+                ringNodes[target * MAX_NODES + ringLength[target]] = node;
+                ringLength[target]++;
+                ringSet[target] |= bit(node);
+            }
         }
     }
 
@@ -1253,7 +1259,7 @@ public final class PlainDrawing {
         void arrange(Graph graph, Faces faces, int rounds) {
             Arrays.fill(x, 0f);
             Arrays.fill(y, 0f);
-            int fixed = pinOuterNodes(graph, faces);
+            int fixed = faces.exists(graph.outer) ? pinOuterNodes(graph, faces) : 0;
             for (int round = 0; round < rounds; round++) {
                 for (int node = 0; node < graph.nodes; node++) {
                     if (!contains(fixed, node) && graph.degree[node] > 0) {
