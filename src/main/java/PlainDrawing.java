@@ -988,7 +988,7 @@ public final class PlainDrawing {
                 came = bit(node);
                 node = onward;
             }
-            if (node < 0) {
+            if (node < 0 || !contains(seen, node)) {
                 return false;
             }
             cutPathBefore(node);
